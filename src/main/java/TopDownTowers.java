@@ -733,7 +733,7 @@ public final class TopDownTowers {
         /** The first place from there on whose byte is not between the two. */
         private int endOfThose(int from, char least, char greatest) {
             int end = from;
-            while (end < length && isBetween(end, least, greatest)) {
+            while (end >= 0 && end < length && bytes[end] >= least && bytes[end] <= greatest) {
                 end++;
             }
             return end;

@@ -16,6 +16,7 @@ public final class DaysTest {
         restWaits();
         upAndFloor();
         keepAndBack();
+        keepTwoTowers();
         Check.end("DaysTest");
     }
 
@@ -221,5 +222,25 @@ public final class DaysTest {
         y.rest(3);
         Check.due("14: ahead of any text", y.back(0), 0);
         Check.due("14: its DAY", y.count(5), 3);
+    }
+
+    private static void keepTwoTowers() {
+        TopDownTowers x = Check.towerOf("room 1 99 1;room 1 99 2;room 1 99 4");
+        x.keep(1);
+        x.lift(0);
+        x.lift(1);
+        x.keep(0);
+        x.back(1);
+        x.lift(2);
+        x.lift(0);
+        Check.due("13: another tower", x.keep(1), 2);
+        Check.due("14: the first one", x.back(0), 2);
+        Check.due("14: its topmost", x.up(0), 0);
+        Check.due("14: its second", x.up(1), 1);
+        x.lift(2);
+        Check.due("14: the other one", x.back(1), 2);
+        Check.due("14: its topmost", x.up(0), 2);
+        Check.due("14: its second", x.up(1), 0);
+        Check.due("14: a floor of it", x.floor(2), 1);
     }
 }

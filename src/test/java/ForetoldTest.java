@@ -77,6 +77,11 @@ public final class ForetoldTest {
         Check.tell(x, "roof 1 99 3;roof 1 99 3;room 1 99 2;wind 0 39 9");
         Check.due("16: one ROOF, the ROOM", x.tallest(0), 5);
         Check.due("16: of two sets the least", x.tallest(1), 5);
+        Check.tell(x, "site;room 1 99 2;room 1 99 3");
+        Check.due("16: all of them", x.tallest(0), 5);
+        Check.due("16: all of them", x.tallest(1), 3);
+        Check.tell(x, "jacks 0");
+        Check.due("16: nothing of an earlier call", x.tallest(1), 2);
         Check.tell(x, "site;room 9 0 2;room 9 0 3");
         Check.due("16: only one can be", x.tallest(0), 3);
         Check.due("16: the second", x.tallest(1), 2);
@@ -222,5 +227,14 @@ public final class ForetoldTest {
         y.lift(2);
         Check.due("21: BELLS third", y.in(3, 2), 1);
         Check.due("21: BELLS fourth", y.in(3, 3), 0);
+        String room = "room 1 99 1";
+        TopDownTowers z = Check.towerOf(String.join(";", room, room, room, room, room, room, room, "room 1 4 1"));
+        for (int s = 0; s < 7; s++) {
+            z.lift(s);
+        }
+        for (int i = 0; i <= 7; i++) {
+            Check.due("21: the eighth, " + i, z.in(7, i), i <= 4 ? 1 : 0);
+        }
+        Check.due("21: above seven", z.in(7, 8), OUTSIDE);
     }
 }

@@ -10,10 +10,13 @@ public final class ModelTest {
     private final PlainModel model = new PlainModel();
     private final StringBuilder calls = new StringBuilder();
     private final boolean isHeavy;
+    /** Some runs tell much, some leave what is told as it is for long. */
+    private final int tellsOneIn;
 
     private ModelTest(long seed) {
         chance = new Random(seed);
         isHeavy = chance.nextInt(3) == 0;
+        tellsOneIn = 8 + 10 * chance.nextInt(5);
     }
 
     public static void main(String[] args) {
@@ -42,7 +45,7 @@ public final class ModelTest {
 
     private void play() {
         for (int call = 0; call < CALLS; call++) {
-            if (chance.nextInt(12) == 0 || call == 0) {
+            if (chance.nextInt(tellsOneIn) == 0 || call == 0) {
                 tellSome();
             } else {
                 callOne();
@@ -59,12 +62,20 @@ public final class ModelTest {
         return chance.nextInt(bound);
     }
 
-    /** A number of those told, now and then one just outside. */
+    /** A number of those told, now and then one just outside, or any one at all. */
     private int about(int least, int greatest) {
-        if (below(12) == 0) {
-            return below(2) == 0 ? least - 1 : greatest + 1;
+        switch (below(40)) {
+            case 0:
+                return least - 1;
+            case 1:
+                return greatest + 1;
+            case 2:
+                return chance.nextInt();
+            case 3:
+                return below(2) == 0 ? Integer.MIN_VALUE : Integer.MAX_VALUE;
+            default:
+                return least + below(greatest - least + 1);
         }
-        return least + below(greatest - least + 1);
     }
 
     private void tellSome() {

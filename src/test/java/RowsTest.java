@@ -148,6 +148,25 @@ public final class RowsTest {
         fits(x, 0, 10, 10, 19);
         x.lift(3);
         fits(x, 0, 10, 10, 19);
+        Check.tell(x, "site;room 19 99 1;room 1 99 1;room 1 99 1");
+        x.lift(0);
+        x.lift(1);
+        x.seen(1, 1);
+        fits(x, 2, 99, 1, 99);
+        x.forget();
+        x.seen(1, 2);
+        fits(x, 2, 0, NONE, NONE);
+        x.forget();
+        x.seen(1, 0);
+        fits(x, 2, 0, NONE, NONE);
+        Check.tell(x, "folk 0 1");
+        x.lift(0);
+        x.lift(1);
+        x.seen(1, 1);
+        fits(x, 2, 0, NONE, NONE);
+        x.forget();
+        x.seen(1, 2);
+        fits(x, 2, 99, 1, 99);
     }
 
     private static void fitsByFolkAndSoft() {

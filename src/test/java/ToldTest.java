@@ -108,6 +108,8 @@ public final class ToldTest {
         fault("sit", 0);
         fault("sites", 0);
         fault("Site", 0);
+        fault("xite", 0);
+        fault("doom 1 1 1", 0);
         fault("siteroom 1 1 1", 0);
         fault("site room 1 1 1", 5);
         fault("site;site", NONE);
@@ -241,7 +243,7 @@ public final class ToldTest {
         Check.due("5: PAIRS", x.count(3), 1);
         Check.due("5: the others stay", x.storey(0, 4), 6);
         Check.due("5: jacks stay", x.count(1), 77);
-        Check.tell(x, "above 1 0");
+        Check.tell(x, "above 1 0;cellar 1 1 1;wind 30 39 9");
         Check.due("5: a PAIR twice", x.count(3), 2);
         Check.tell(x, "site");
         long[] due = {0, 500, 10, 0, 0, 0, 0, 0, 0, 0, 0, 0};
@@ -249,9 +251,13 @@ public final class ToldTest {
             Check.due("5: as at first, count(" + what + ")", x.count(what), due[what]);
         }
         Check.due("5: no winds", x.soonest(8), 7);
-        Check.tell(x, "room 1 1 1;room 2 2 2");
+        x.rest(39);
+        Check.due("5: no wind of the last DAY", x.count(8), 0);
+        Check.tell(x, "room 1 1 1;room 2 2 2;room 1 1 1");
         Check.due("5: no FOLK of earlier", x.storey(0, 4), 0);
         Check.due("5: no PAIR of earlier", x.why(0), 0);
+        x.lift(2);
+        Check.due("5: no CELLAR of earlier", x.why(0), 0);
     }
 
     private static void siteStartsAnew() {
