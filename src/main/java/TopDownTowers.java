@@ -169,7 +169,7 @@ public final class TopDownTowers {
     }
 
     public int keep(int k) {
-        if (k < 0 || k >= MOST_KEPT) {
+        if (!hasKeepAt(k)) {
             return UNKNOWN;
         }
         kept[k].copyFrom(tower);
@@ -178,7 +178,7 @@ public final class TopDownTowers {
     }
 
     public int back(int k) {
-        if (k < 0 || k >= MOST_KEPT) {
+        if (!hasKeepAt(k)) {
             return UNKNOWN;
         }
         if (!isKept[k]) {
@@ -187,6 +187,10 @@ public final class TopDownTowers {
         tower.copyFrom(kept[k]);
         seenMany = 0;
         return tower.many;
+    }
+
+    private boolean hasKeepAt(int k) {
+        return k >= 0 && k < MOST_KEPT && kept[k] != null;
     }
 
     // ---- foretold
