@@ -1,7 +1,16 @@
+import java.io.IOException;
+import java.io.UncheckedIOException;
+import java.nio.file.Files;
+import java.nio.file.Path;
+
 /** What the tests share: answers that are due, and texts told to a tower. */
 final class Check {
+    private static final Path DOCUMENT = Path.of("../shared/DOC.md");
+
     private static int wrong = 0;
     private static int looked = 0;
+    private static String sentence = "";
+    private static String document = "";
 
     private Check() {
     }
@@ -10,12 +19,29 @@ final class Check {
         looked++;
         if (got != want) {
             wrong++;
-            System.out.println(call + " answered " + got + ", due is " + want);
+            System.out.println(sentence + call + " answered " + got + ", due is " + want);
         }
     }
 
     static void holds(String what, boolean is) {
         due(what, is ? 1 : 0, 1);
+    }
+
+    /** What is checked from here on is asked by these words; they must stand in the document, sign by sign. */
+    static void sentence(String words) {
+        sentence = "[" + words + "] ";
+        holds("the document has these words", document().contains(words));
+    }
+
+    private static String document() {
+        if (document.isEmpty()) {
+            try {
+                document = Files.readString(DOCUMENT);
+            } catch (IOException e) {
+                throw new UncheckedIOException(e);
+            }
+        }
+        return document;
     }
 
     static void end(String name) {

@@ -2,7 +2,8 @@ import java.util.Random;
 
 /** Rows of calls by chance (always the same ones), each answer compared with the plain model's. */
 public final class ModelTest {
-    private static final int RUNS = 1500, CALLS = 200;
+    /** The last text that is told begins ahead of this many calls, so that it ends within an object's 512. */
+    private static final int RUNS = 1500, CALLS = 400;
     private static final String[] WORDS = {"site", "room", "roof", "cellar", "bells", "folk", "jacks", "soft", "wind", "above"};
 
     private final Random chance;
@@ -12,6 +13,7 @@ public final class ModelTest {
     private final boolean isHeavy;
     /** Some runs tell much, some leave what is told as it is for long. */
     private final int tellsOneIn;
+    private int made;
 
     private ModelTest(long seed) {
         chance = new Random(seed);
@@ -29,10 +31,10 @@ public final class ModelTest {
     }
 
     private static void allOdds() {
-        TopDownTowers x = new TopDownTowers();
         PlainModel model = new PlainModel();
         for (int d = -1; d <= 19; d++) {
             for (int k = -1; k <= 19; k++) {
+                TopDownTowers x = new TopDownTowers();
                 for (int p = -1; p <= 11; p++) {
                     for (int part = -1; part <= 2; part++) {
                         String call = "odds(" + d + ", " + k + ", " + p + ", " + part + ")";
@@ -44,16 +46,19 @@ public final class ModelTest {
     }
 
     private void play() {
-        for (int call = 0; call < CALLS; call++) {
-            if (chance.nextInt(tellsOneIn) == 0 || call == 0) {
+        tellSome();
+        while (made < CALLS) {
+            if (chance.nextInt(tellsOneIn) == 0) {
                 tellSome();
             } else {
                 callOne();
             }
         }
+        Check.holds("calls of one object", made <= 512);
     }
 
     private void same(String call, long got, long want) {
+        made++;
         calls.append(call).append(' ');
         Check.due(got == want ? call : calls.toString(), got, want);
     }
