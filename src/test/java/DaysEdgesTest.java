@@ -31,6 +31,7 @@ public final class DaysEdgesTest {
         floor();
         keep();
         back();
+        bothKept();
         backSinceTheLastText();
         calls();
         Check.end("DaysEdgesTest");
@@ -370,6 +371,28 @@ public final class DaysEdgesTest {
         Check.due("kept over it", x.keep(1), 2);
         Check.due("back to that", x.back(1), 2);
         Check.due("the second", x.up(1), 1);
+    }
+
+    private static void bothKept() {
+        Check.sentence("They are as they were kept");
+        TopDownTowers x = with("room 9 99 1;room 9 99 2;room 9 99 4");
+        x.keep(0);
+        x.lift(2);
+        x.lift(1);
+        x.keep(1);
+        Check.due("back to nothing", x.back(0), 0);
+        x.lift(0);
+        x.lift(2);
+        x.lift(1);
+        x.keep(0);
+        Check.due("back to two", x.back(1), 2);
+        Check.due("their topmost", x.up(0), 2);
+        Check.due("their lowest", x.up(1), 1);
+        Check.due("the third is not up", x.floor(0), NONE);
+        Check.due("their DAY", x.count(5), 2);
+        Check.due("back to three", x.back(0), 3);
+        Check.due("their topmost", x.up(0), 0);
+        Check.due("their DAY", x.count(5), 3);
     }
 
     private static void backSinceTheLastText() {

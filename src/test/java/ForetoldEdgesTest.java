@@ -132,6 +132,11 @@ public final class ForetoldEdgesTest {
         tallestIs(2, 2, "room 5 8 1;room 9 4 2");
         tallestIs(9, 4, "room 1 9 4;room 1 9 4;cellar 1 9 9;above 2 0;above 2 1");
         tallestIs(12, 5, "cellar 1 9 9;cellar 1 9 8;roof 1 9 3");
+        TopDownTowers x = with("room 1 9 1;room 1 9 2");
+        Check.due("all", x.tallest(0), 3);
+        Check.tell(x, "jacks 0");
+        Check.due("nothing is left of an earlier answer", x.tallest(0), 2);
+        Check.due("nothing is left of an earlier answer", x.tallest(1), 2);
     }
 
     private static void tallestOfSeveral() {

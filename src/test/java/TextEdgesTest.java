@@ -346,6 +346,9 @@ public final class TextEdgesTest {
             faultAt(line.length(), TWO, line + ".");
             faultAt(0, TWO, line.substring(1));
             faultAt(0, TWO, "a" + line);
+            for (int i = 0; i < line.length() && line.charAt(i) != ' '; i++) {
+                faultAt(0, TWO, line.substring(0, i) + "x" + line.substring(i + 1));
+            }
             for (int end = line.lastIndexOf(' '); end > 0; end = line.lastIndexOf(' ', end - 1)) {
                 faultAt(end, TWO, line.substring(0, end));
                 faultAt(end + 1, TWO, line.substring(0, end) + " x");
@@ -366,9 +369,16 @@ public final class TextEdgesTest {
             Check.due("soonest(" + k + ")", x.soonest(k), first.soonest(k));
         }
         Check.due("no 0", x.storey(0, 0), UNKNOWN);
-        Check.tell(x, TWO);
+        for (int day = 0; day < 40; day++) {
+            Check.due("WIND of DAY " + day, x.count(8), 0);
+            x.rest(1);
+        }
+        Check.tell(x, "cellar 1 9 1;cellar 1 9 1;folk 0 9;folk 1 9;above 0 1");
+        Check.tell(x, "site;room 1 9 1;room 1 9 1");
         Check.due("FOLK", x.storey(0, 4), 0);
         Check.due("no PAIR is left", x.why(1), 0);
+        Check.due("set", x.lift(1), 1);
+        Check.due("no CELLAR is left", x.why(0), 0);
     }
 
     private static void smallLetters() {
